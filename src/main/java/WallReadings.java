@@ -440,7 +440,7 @@ public final class WallReadings {
         return letters;
     }
 
-    /** Of the numbers up to the last short row: those that leave no LETTER out. They rise as their rows are to come. */
+    /** Whether a number is that of a row of up to 4 LETTERS. Such numbers rise in the very order that the rows are to come in. */
     private static boolean isShortRow(int number) {
         int left = number;
         for (int i = 0; i < SHORT_ROW && left > 0; i++) {
@@ -496,6 +496,7 @@ public final class WallReadings {
     }
 
     private static int inLowestTerms(long above, long below, int part) {
+        // No chance at all is 0 of 1, be it of nothing too: then each part is its own number.
         if (above <= 0 || below <= 0) {
             return part;
         }
@@ -522,7 +523,7 @@ public final class WallReadings {
         final int[] readerKind = new int[MOST_READERS];
         final int[] readerHours = new int[MOST_READERS];
         final int[] readerPrice = new int[MOST_READERS];
-        // The WORDS that are of a row of LETTERS, as bits.
+        // The WORDS that are of a row of LETTERS, as bits: a table, for all short rows are looked through at one call.
         final int[] wordsOfRow = new int[ROOT_ROWS];
         int roots;
         int readers;
@@ -725,7 +726,7 @@ public final class WallReadings {
         // What may follow, and who has what ends here, hangs on one of three stages alone:
         // no VERB was read yet; a NOUN was read last, a VERB ahead of it; a VERB was read last.
         private static final int NO_VERB = 0, NOUN_LAST = 1, VERB_LAST = 2, STAGES = 3;
-        private static final int SLOTS = 30;
+        private static final int SLOTS = (MOST_LETTERS + 1) * STAGES;
 
         private final World world;
         private final int[] letters = new int[MOST_LETTERS];
