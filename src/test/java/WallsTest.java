@@ -21,6 +21,7 @@ public final class WallsTest {
         nothingWritten();
         tells();
         tellsTheFirstOfSeveral();
+        tellsOfLessAndLess();
         Due.end("WallsTest");
     }
 
@@ -331,5 +332,19 @@ public final class WallsTest {
         x = Due.laid("ra,0,1;rb,0,1;rab,3,2;rc,1,1;k2,1,1;wcabc;");
         Due.is("prophet of cabc", x.reader(0, 3), 4);
         tellsAre(x, 0, 3, 3, 2);
+    }
+
+    /** What was told of a longer row ahead of it must not count. */
+    private static void tellsOfLessAndLess() {
+        String told = "rb,5,0;rc,0,1;ra,1,0;rab,9,1;rcb,3,3;k2,1,1;k1,1,1;k3,1,1;w";
+        String row = "bcbabcbab";
+        WallReadings x = Due.laid(told + row + ";");
+        for (int n = 9; n >= 1; n--) {
+            WallReadings fresh = Due.laid(told + row.substring(0, n) + ";");
+            for (int k = 0; k < 3; k++) {
+                tellsAre(x, k, fresh.tells(k, 0), fresh.tells(k, 1), fresh.tells(k, 2));
+            }
+            x.rub();
+        }
     }
 }
