@@ -18,6 +18,10 @@ final class Due {
         }
     }
 
+    static void is(String what, boolean got, boolean due) {
+        is(what + " (1: so)", got ? 1 : 0, due ? 1 : 0);
+    }
+
     /** The answers of one call for several arguments, one behind the other. */
     static void are(String call, int[] got, int... due) {
         is(call + ": how many", got.length, due.length);
