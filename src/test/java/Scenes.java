@@ -148,14 +148,14 @@ final class Scenes {
 
     /** The same in a scene, behind what is done there first. */
     static void refuseBehind(Scene scene, Deed first, String name, Call call, int due) {
-        for (int way = 0; way < 2; way++) {
+        for (int way = 0; way < 3; way++) {
             WallReadings x = scene.make();
             WallReadings twin = scene.make();
             first.on(x);
             first.on(twin);
             String where = name + " in " + scene;
             Due.is(where, call.on(x), due);
-            Due.are("left as it was by " + where, shown(x, way == 0), shown(twin, way == 0));
+            Due.are("left as it was by " + where, shown(x, way), shown(twin, way));
         }
     }
 
@@ -170,10 +170,30 @@ final class Scenes {
         }
     }
 
-    /** All that an object shows; it is used up by that. */
-    private static int[] shown(WallReadings x, boolean byUndo) {
+    /** All that an object shows, in one of three ways: each uses it up. */
+    private static int[] shown(WallReadings x, int way) {
         List<Integer> all = new ArrayList<>();
-        addLaid(x, all);
+        if (way == 2) {
+            addThoughts(x, all);
+        } else {
+            addLaid(x, all);
+            addPast(x, way == 0, all);
+            all.add(x.fault());
+            all.add(x.lay());
+            addCounts(x, all);
+            all.add(x.root(0, 0));
+        }
+        return all.stream().mapToInt(Integer::intValue).toArray();
+    }
+
+    private static void addCounts(WallReadings x, List<Integer> all) {
+        for (int count : Due.counts(x)) {
+            all.add(count);
+        }
+    }
+
+    /** What can be UNDONE, or what is KEPT, moment by moment. */
+    private static void addPast(WallReadings x, boolean byUndo, List<Integer> all) {
         addMoment(x, all);
         for (int n = 0; n < 9; n++) {
             int left = byUndo ? x.undo() : x.back();
@@ -183,19 +203,38 @@ final class Scenes {
             }
             addMoment(x, all);
         }
-        all.add(x.fault());
-        all.add(x.lay());
-        for (int count : Due.counts(x)) {
-            all.add(count);
+    }
+
+    /** What may be, by all READERS, and then what comes of asking and shutting. */
+    private static void addThoughts(WallReadings x, List<Integer> all) {
+        int readers = x.count(1);
+        for (int k = 0; k < readers; k++) {
+            all.add(x.tells(k, 0));
+            all.add(x.belief(k, 1, 0));
+            all.add(x.belief(k, 1, 1));
+            all.add(x.without(k));
+            all.add(x.shortest(k, 0));
+            all.add(x.until(k));
+            all.add(x.forgotten(k, 3, 0));
+            all.add(x.forgotten(k, 3, 1));
+            all.add(x.walls(77, 40, k, 1));
         }
-        all.add(x.root(0, 0));
-        return all.stream().mapToInt(Integer::intValue).toArray();
+        for (int verbs = 2; verbs <= 14; verbs += 2) {
+            for (int what = 0; what < 3; what++) {
+                all.add(x.enough(verbs, what));
+            }
+        }
+        all.add(x.shut());
+        for (int k = 0; k < readers; k++) {
+            all.add(x.ask(k));
+            all.add(x.shut());
+            all.add(x.pass(3));
+        }
+        addCounts(x, all);
     }
 
     private static void addLaid(WallReadings x, List<Integer> all) {
-        for (int count : Due.counts(x)) {
-            all.add(count);
-        }
+        addCounts(x, all);
         int roots = x.count(0);
         for (int r = 0; r < roots; r++) {
             for (int what = 0; what < 3; what++) {

@@ -69,9 +69,15 @@ public final class WallsEdgesTest {
     private static void newObjectStandsAtFirst() {
         WallReadings x = new WallReadings();
         Due.are("counts of a new object", Due.counts(x), 8, 5, 7, 0, 25, 18, 10, 0, 0, 0, 0, 0, 0);
-        Due.is("root(7, 0), new", x.root(7, 0), 4 * 36 + 6 + 2);
+        int[] roots = {1, 5, 1, 2, 0, 2, 8, 12, 0, 13, 7, 3, 3, 3, 0, 22, 20, 2, 4, 1, 1, 152, 40, 0};
+        for (int n = 0; n < roots.length; n++) {
+            Due.is("root(" + n / 3 + ", " + n % 3 + "), new", x.root(n / 3, n % 3), roots[n]);
+        }
+        int[] readers = {0, 2, 5, 1, 1, 3, 2, 3, 12, 3, 1, 0, 4, 4, 8};
+        for (int n = 0; n < readers.length; n++) {
+            Due.is("reader(" + n / 3 + ", " + n % 3 + "), new", x.reader(n / 3, n % 3), readers[n]);
+        }
         Due.is("root(8, 0), new", x.root(8, 0), Due.BAD);
-        Due.is("reader(4, 2), new", x.reader(4, 2), 8);
         Due.is("reader(5, 2), new", x.reader(5, 2), Due.BAD);
         Due.is("fault, new", new WallReadings().fault(), Due.NONE);
         Due.is("lay, new", new WallReadings().lay(), Due.NO);
@@ -231,7 +237,10 @@ public final class WallsEdgesTest {
 
     private static void faultOnlyLooks() {
         Scenes.look("fault()", WallReadings::fault);
-        String[] texts = {"ra,1,1;k0,1,1;", "ra,1,1;k0,1,1;we;v3,0,1;g9;z", "rb,1,1;rb", "k1,1,1;k5"};
+        String[] texts = {
+            "ra,1,1;k0,1,1;", "ra,1,1;k0,1,1;we;v3,0,1;g9;z", "rb,1,1;rb", "k1,1,1;k5",
+            "re,9,3;k3,12,60;k3,12,60;k3,12,60;k3,12,60;k3,12,60;we;v60,24,1;g99;",
+            "re,9,3;k3,12,60;k3,12,60;k3,12,60;k3,12,60;k3,12,60;we;v60,24,1;g99;,"};
         for (String text : texts) {
             for (Scenes.Scene scene : Scenes.Scene.values()) {
                 WallReadings x = scene.make();
@@ -958,6 +967,14 @@ public final class WallsEdgesTest {
         x = Due.laid("ra,1,0;raa,3,0;k1,1,1;waaa;");
         tellsAre(x, 0, 1, 4, 0);
         Due.is("the first word of a aa", x.word(0, 1, 0), 0);
+        // What leads to no READING weighs nothing, be it as heavy, or heavier.
+        x = Due.laid("rab,9,0;ra,1,0;rbc,1,0;rabc,9,0;k1,1,1;wabc;");
+        tellsAre(x, 0, 1, 9, 0);
+        x = Due.laid("rab,20,0;ra,1,0;rbc,1,0;rabc,9,0;k1,1,1;wabc;");
+        tellsAre(x, 0, 1, 9, 0);
+        // The last two of nine LETTERS as one ROOT or as two.
+        x = Due.laid("rc,1,0;rab,1,0;ra,1,0;rb,1,0;k1,1,1;wcccccccab;");
+        tellsAre(x, 0, 1, 9, 0);
         // What can also be a VERB WEIGHS as a NOUN; a heavier READING with a VERB is not his.
         x = Due.laid("ra,2,1;rab,3,0;rb,0,2;rc,50,0;rbc,1,0;k1,1,1;k0,1,1;wabc;");
         tellsAre(x, 0, 1, 53, 0);
@@ -982,6 +999,15 @@ public final class WallsEdgesTest {
         x = Due.laid("ra,0,1;rb,1,0;rbb,0,2;rc,0,1;rcb,0,3;k2,1,1;wabcb;");
         Due.is("two of abcb", x.reader(0, 3), 2);
         tellsAre(x, 0, 0, 2, 2);
+        // The ninth WORD makes it more.
+        x = Due.laid("rd,0,3;rc,1,0;ra,1,1;k2,1,1;wdccccccca;");
+        Due.is("readings of dccccccca", x.reader(0, 3), 2);
+        tellsAre(x, 0, 1, 7, 10);
+        // What leads to no READING has no VERB.
+        x = Due.laid("rab,0,2;ra,1,0;rbc,0,1;rabc,0,3;k2,1,1;wabc;");
+        tellsAre(x, 0, 0, 1, 2);
+        x = Due.laid("rab,0,2;ra,0,1;rbd,1,0;rc,0,3;rbc,1,0;rb,2,0;k2,1,1;wabc;");
+        tellsAre(x, 0, 1, 2, 10);
         // Heavier is no more.
         x = Due.laid("ra,1,1;raa,60,2;k2,1,1;waaa;");
         tellsAre(x, 0, 4, 1, 2);
