@@ -375,6 +375,15 @@ public final class HoursEdgesTest {
         Scenes.refuseIn(Scenes.Scene.FULL, "carve(5), full", y -> y.carve(5), Due.BAD);
         x = Due.laid("ra,1,0;k0,1,1;waaaaaaaaa;");
         Due.is("the 10th of 9 told", x.carve(0), Due.FULL);
+        for (Scenes.Scene scene : Scenes.Scene.values()) {
+            x = scene.make();
+            for (int n = x.count(2) + 1; n <= 9; n++) {
+                Due.is("carve, the " + n + "th in " + scene, x.carve(n % 5), n);
+            }
+            Due.is("carve, the 10th in " + scene, x.carve(0), Due.FULL);
+            Due.is("carve of none, the 10th in " + scene, x.carve(5), Due.BAD);
+            Due.is("count(2), full in " + scene, x.count(2), 9);
+        }
     }
 
     private static void carveIsBehindTheWriting() {
@@ -414,6 +423,14 @@ public final class HoursEdgesTest {
             Due.is("the first one", x.word(0, 0, 0), 0);
         }
         Due.is("rub of the last", x.rub(), 0);
+        for (Scenes.Scene scene : Scenes.Scene.values()) {
+            x = scene.make();
+            for (int left = x.count(2) - 1; left >= 0; left--) {
+                Due.is("rub in " + scene, x.rub(), left);
+            }
+            Due.is("rub of none in " + scene, x.rub(), Due.NO);
+            Due.is("count(2), none in " + scene, x.count(2), 0);
+        }
     }
 
     // ---- promise 15

@@ -295,6 +295,11 @@ public final class LotsEdgesTest {
         Due.is("keep", x.keep(), 1);
         Scenes.refuseIn(Scenes.Scene.FULL, "keep, full", WallReadings::keep, Due.FULL);
         for (Scenes.Scene scene : Scenes.Scene.values()) {
+            x = scene.make();
+            for (int n = x.count(11) + 1; n <= 2; n++) {
+                Due.is("keep, the " + n + "th in " + scene, x.keep(), n);
+            }
+            Due.is("keep of a third in " + scene, x.keep(), Due.FULL);
             Scenes.refuseBehind(scene, y -> {
                 y.keep();
                 y.pass(1);

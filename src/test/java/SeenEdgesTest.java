@@ -63,6 +63,14 @@ public final class SeenEdgesTest {
         Due.is("see, the 7th", x.see(0, 1), Due.FULL);
         Due.is("see, the 7th like the 1st", x.see(1, 1), Due.FULL);
         Due.is("count(9)", x.count(9), 6);
+        for (Scenes.Scene scene : Scenes.Scene.values()) {
+            WallReadings y = scene.make();
+            for (int n = y.count(9) + 1; n <= 6; n++) {
+                Due.is("see, the " + n + "th in " + scene, y.see(0, 600), n);
+            }
+            Due.is("see, the 7th in " + scene, y.see(0, 600), Due.FULL);
+            Due.is("forget in " + scene, y.forget(), 6);
+        }
         Scenes.refuseIn(Scenes.Scene.FULL, "see(0, 0), full", y -> y.see(0, 0), Due.FULL);
         Scenes.refuseIn(Scenes.Scene.FULL, "see(4, 600), full", y -> y.see(4, 600), Due.FULL);
         Scenes.refuseIn(Scenes.Scene.FULL, "see(0, 601), full", y -> y.see(0, 601), Due.BAD);
