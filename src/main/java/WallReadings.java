@@ -820,8 +820,12 @@ public final class WallReadings {
             return slot % STAGES == VERB_LAST ? open & NOUN_WORDS : open;
         }
 
+        /** The slot behind a WORD read at a slot; that slot itself, if fewer LETTERS are left than the WORD has. */
         private int slotBehind(int slot, int word) {
             int place = slot / STAGES + world.rootSize[word / 2];
+            if (place > end) {
+                return slot;
+            }
             if (word % 2 == 1) {
                 return place * STAGES + VERB_LAST;
             }
